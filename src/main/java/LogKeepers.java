@@ -1306,7 +1306,7 @@ public final class LogKeepers {
          * Whether the commands that are left can follow those that came; writer is the one that the cell has its
          * value from (MAX: none). A command's answer tells what it leaves in the cell, so the writer stands for it.
          */
-        boolean canGoOn(int depth, int came, int cell, int writer) {
+        private boolean canGoOn(int depth, int came, int cell, int writer) {
             if (depth >= size || depth >= MAX) {
                 return true;
             }

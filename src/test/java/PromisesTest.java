@@ -17,6 +17,7 @@ public final class PromisesTest {
         promise1();
         promise2and3();
         promise4();
+        promise4AllAsAtFirst();
         promise4and5Faults();
         promise6();
         promise6FullPost();
@@ -43,6 +44,7 @@ public final class PromisesTest {
         promise23and24();
         promise25and26();
         promise27and28();
+        promise28Reads();
         promise29();
         CHECK.finish();
     }
@@ -124,6 +126,35 @@ public final class PromisesTest {
         due("4 cell", x.state(0, 0), 0);
         due("4 client", x.client(0, 1, 0), 0);
         due("4 entry", x.entry(0, 1, 0), GAP);
+    }
+
+    private static void promise4AllAsAtFirst() {
+        LogKeepers x = Check.led(3);
+        x.command(0, 1, 1, 0, 0, 7);
+        Check.pass(x, 0, 1);
+        x.fold(0, 1);
+        x.read(0, 0);
+        Check.pass(x, 0, 1);
+        due("4 good before", x.good(0), 7);
+        x.fall(0);
+        Check.lay(x, "keeper a;keeper b;");
+        due("4 keepers", x.keepers(), 2);
+        due("4 not fallen", x.keeper(0, 6), 0);
+        due("4 not folded", x.keeper(0, 3), 0);
+        x.fall(0);
+        due("4 nothing behind the fold", x.state(0, 0), 0);
+        due("4 no client there", x.client(0, 1, 0), 0);
+        x.rise(0);
+        due("4 term", x.ask(0), 1);
+        due("4 term of last", x.slot(0, 5), 0);
+        Check.deliverAll(x);
+        due("4 no read is left", x.good(0), GAP);
+        due("4 round", x.keeper(0, 8), 0);
+        x.command(0, 1, 1, 0, 0, 8);
+        Check.pass(x, 0, 1);
+        due("4 counts anew", x.state(0, 0), 8);
+        due("4 no read is left", x.good(0), GAP);
+        due("15 reads from 0 on", x.read(0, 0), 0);
     }
 
     private static void text(String text, int want, int fault, int place) {
@@ -1093,6 +1124,41 @@ public final class PromisesTest {
         due("27 over an older one", x.image(2), 0);
         due("28 the newer one", x.back(2), 0);
         due("28 fallen", x.keeper(0, 6), 1);
+    }
+
+    /** A read of one leader is kept; then another leads and reads. */
+    private static void promise28Reads() {
+        LogKeepers x = Check.led(3);
+        x.command(0, 0, 1, 0, 0, 5);
+        x.command(0, 0, 2, 0, 3, 6);
+        Check.pass(x, 0, 1);
+        x.image(0);
+        x.read(0, 3);
+        x.image(1);
+        x.back(0);
+        due("28 no reads", x.about(4), 0);
+        due("28 none", x.good(0), GAP);
+        x.ask(1);
+        Check.deliverAll(x);
+        x.command(1, 0, 3, 0, 0, 7);
+        for (int i = 0; i < 4; i++) {
+            Check.pass(x, 1, 0);
+        }
+        due("28 read", x.read(1, 0), 0);
+        Check.pass(x, 1, 0);
+        due("28 good", x.good(0), 7);
+        x.image(2);
+        due("28 back", x.back(1), 0);
+        due("28 not good", x.good(0), GAP);
+        Check.pass(x, 0, 1);
+        due("28 good there", x.good(0), 6);
+        x.back(2);
+        due("28 good here", x.good(0), 7);
+        x.back(0);
+        due("28 none again", x.good(0), GAP);
+        due("28 read again", x.read(0, 0), 0);
+        Check.pass(x, 0, 2);
+        due("28 good again", x.good(0), 5);
     }
 
     private static void promise29() {
