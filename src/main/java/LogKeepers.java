@@ -420,29 +420,30 @@ public final class LogKeepers {
             return sign == 32 || sign == 10;
         }
 
-        /** Finds the next token; false at the end of the text, or at a byte that begins none. */
+        /** Finds the next token; false at the end of the text, or where none begins. */
         boolean findToken() {
-            int at = tokenEnd;
-            while (at < length && isBlank(at)) {
-                at++;
+            tokenAt = tokenEnd;
+            while (tokenAt < length && isBlank(tokenAt)) {
+                tokenAt++;
             }
-            if (at >= length) {
+            if (tokenAt >= length) {
                 return false;
             }
-            tokenAt = at;
-            if (byteAt(at) == ';') {
-                tokenEnd = at + 1;
-                return true;
-            }
-            while (at < tokenAt + MAX_WORD && isLetter(at)) {
-                at++;
-            }
-            tokenEnd = at;
-            if (at == tokenAt) {
-                blame(NO_TOKEN, at);
+            tokenEnd = byteAt(tokenAt) == ';' ? tokenAt + 1 : endOfLetters(tokenAt);
+            // A word never stops amid letters, so a run that is too long holds no token at all.
+            if (tokenEnd == tokenAt || tokenEnd - tokenAt > MAX_WORD) {
+                blame(NO_TOKEN, tokenAt);
                 return false;
             }
             return true;
+        }
+
+        int endOfLetters(int from) {
+            int at = from;
+            while (at < length && isLetter(at)) {
+                at++;
+            }
+            return at;
         }
 
         /** Takes the token where the due one stands; says which is due behind it. */

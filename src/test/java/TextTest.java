@@ -9,7 +9,7 @@ public final class TextTest {
     private static final String[] PIECES = {"keeper", "silent", ";", " ", "\n", "a", "b", "c", "keeper a;", "keeper b;",
         "keeper c silent;", " keeper d ;", "keeper abcdefgh;", "abcdefghi", "keeper e;", "keeper f;", "keeper g;",
         "keeper h;", "keeper i;", "!", "\t", "K", "" + (char) 0, "" + (char) 255, "keeperx", "keeper silent"};
-    private static final Pattern TOKEN = Pattern.compile("[a-z]{1,8}|;");
+    private static final Pattern TOKEN = Pattern.compile("[a-z]{1,8}(?![a-z])|;");
 
     private int fault;
     private int place;
