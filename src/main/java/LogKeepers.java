@@ -325,15 +325,15 @@ public final class LogKeepers {
         }
     }
 
-    /** What a command that counts answers. */
-    private static int answerTo(int what, int was, int value) {
+    /** What a command that counts answers, of what the cell was and what it is then. */
+    private static int answerTo(int what, int was, int is) {
         switch (what) {
             case SET:
                 return was;
             case CLAIM:
                 return was == 0 ? 1 : 0;
             default:
-                return cellBehind(what, was, value);
+                return is;
         }
     }
 
@@ -542,14 +542,21 @@ public final class LogKeepers {
             return isClient(client) ? parts[ANSWERS_AT + client] : GAP;
         }
 
-        void take(int client, int number, int what, int cell, int value) {
-            if (!isClient(client) || !isCell(cell) || number <= parts[LATEST_AT + client]) {
+        /** Takes in the entry whose parts stand from a place on in a row. */
+        void take(int[] entries, int at) {
+            if (at < 0 || at > entries.length - WIDTH) {
                 return;
             }
+            int client = entries[at + CLIENT];
+            int cell = entries[at + CELL];
+            if (!isClient(client) || !isCell(cell) || entries[at + NUMBER] <= parts[LATEST_AT + client]) {
+                return;
+            }
+            int what = entries[at + WHAT];
             int was = parts[cell];
-            parts[cell] = cellBehind(what, was, value);
-            parts[LATEST_AT + client] = number;
-            parts[ANSWERS_AT + client] = answerTo(what, was, value);
+            parts[cell] = cellBehind(what, was, entries[at + VALUE]);
+            parts[LATEST_AT + client] = entries[at + NUMBER];
+            parts[ANSWERS_AT + client] = answerTo(what, was, parts[cell]);
         }
     }
 
@@ -707,22 +714,14 @@ public final class LogKeepers {
         void advanceTo(int entry) {
             while (done < entry && done < last) {
                 done++;
-                takeInto(doneState, done);
-            }
-        }
-
-        void takeInto(State state, int entry) {
-            int at = placeOf(entry);
-            if (at != NONE) {
-                state.take(entries[at + CLIENT], entries[at + NUMBER], entries[at + WHAT], entries[at + CELL],
-                        entries[at + VALUE]);
+                doneState.take(entries, placeOf(done));
             }
         }
 
         void foldUpTo(int entry) {
             int entryTerm = termOf(entry);
             for (int i = folded + 1; i <= entry && i <= last; i++) {
-                takeInto(foldState, i);
+                foldState.take(entries, placeOf(i));
             }
             forgetUpTo(entry);
             foldTerm = entryTerm;
@@ -1315,10 +1314,11 @@ public final class LogKeepers {
                 return false;
             }
             for (int i = 0; i < size; i++) {
-                if (canBeNext(i, came) && answerTo(what[i], cell, value[i]) == answer[i]) {
+                int then = cellBehind(what[i], cell, value[i]);
+                if (canBeNext(i, came) && answerTo(what[i], cell, then) == answer[i]) {
                     boolean writes = what[i] != CLAIM || answer[i] == 1;
                     first[depth] = i;
-                    if (canGoOn(depth + 1, came | 1 << i, cellBehind(what[i], cell, value[i]), writes ? i : writer)) {
+                    if (canGoOn(depth + 1, came | 1 << i, then, writes ? i : writer)) {
                         return true;
                     }
                 }
