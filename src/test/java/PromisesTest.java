@@ -891,6 +891,16 @@ public final class PromisesTest {
         due("16 still another term", x.good(0), GAP);
         due("15 now", x.read(0, 0), 1);
         due("16 now", x.good(1), 4);
+        LogKeepers told = Check.made("keeper a;");
+        for (int time = 0; time < 2; time++) {
+            told.ask(0);
+            told.command(0, 0, 1, 0, 0, 3);
+            due("16 none of those told ahead", told.good(0), GAP);
+            due("15 from 0 on again", told.read(0, 0), 0);
+            due("16 its own", told.good(0), 3);
+            Check.lay(told, "keeper a;");
+            told.keepers();
+        }
         LogKeepers y = Check.made("keeper a;keeper b;keeper c;keeper d silent;");
         y.ask(0);
         Check.deliverAll(y);
