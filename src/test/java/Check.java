@@ -36,7 +36,7 @@ final class Check {
     }
 
     /** Lays a text of at most 400 signs on the tape, which must be empty. */
-    static void lay(LogKeepers x, String text) {
+    static void lay(Counted x, String text) {
         for (int at = 0; at < text.length(); at += 20) {
             x.feed(fourBytes(text, at), fourBytes(text, at + 4), fourBytes(text, at + 8), fourBytes(text, at + 12),
                     fourBytes(text, at + 16));
@@ -44,8 +44,8 @@ final class Check {
         x.end(text.length());
     }
 
-    static LogKeepers made(String text) {
-        LogKeepers x = new LogKeepers();
+    static Counted made(String text) {
+        Counted x = new Counted();
         lay(x, text);
         if (x.keepers() == LogKeepers.NONE) {
             throw new IllegalStateException(text);
@@ -53,7 +53,7 @@ final class Check {
         return x;
     }
 
-    static LogKeepers made(int voters) {
+    static Counted made(int voters) {
         StringBuilder text = new StringBuilder();
         for (int i = 0; i < voters; i++) {
             text.append("keeper ").append((char) ('a' + i)).append(';');
@@ -62,7 +62,7 @@ final class Check {
     }
 
     /** Delivers what is in the least full slots until nothing is left. */
-    static void deliverAll(LogKeepers x) {
+    static void deliverAll(Counted x) {
         for (int round = 0; round < 1000 && x.about(3) > 0; round++) {
             for (int slot = 0; slot < 40; slot++) {
                 if (x.slot(slot, 0) != LogKeepers.NONE) {
@@ -74,15 +74,15 @@ final class Check {
     }
 
     /** Keepers of which the first one leads in term 1, with an empty post. */
-    static LogKeepers led(int voters) {
-        LogKeepers x = made(voters);
+    static Counted led(int voters) {
+        Counted x = made(voters);
         x.ask(0);
         deliverAll(x);
         return x;
     }
 
     /** One append and its answer; the post must be empty. */
-    static void pass(LogKeepers x, int from, int to) {
+    static void pass(Counted x, int from, int to) {
         int slot = x.append(from, to);
         x.deliver(slot);
         x.deliver(slot);

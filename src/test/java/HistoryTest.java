@@ -11,11 +11,14 @@ public final class HistoryTest {
         Check check = new Check("HistoryTest");
         Random random = new Random(7);
         int right = 0;
-        LogKeepers x = new LogKeepers();
+        Counted x = new Counted();
         for (int run = 0; run < 60000; run++) {
             HistoryTest test = new HistoryTest();
             int size = run % 50 == 0 ? 9 : random.nextInt(7);
             test.make(random, size);
+            if (x.left() < 40) {
+                x = new Counted();
+            }
             check.due("run " + run + ": hush", x.hush() >= 0, true);
             for (int i = 0; i < size; i++) {
                 int[] n = test.notes[i];

@@ -1,15 +1,14 @@
 import java.util.Arrays;
 import java.util.Random;
 
-/** Long random runs, each answer against the model, all that can be looked at against it now and then. */
+/** Long random runs, each answer against the model: acts, and looks at one thing or another. */
 public final class ModelTest {
-    private static final int RUNS = 3000;
-    private static final int CALLS = 500;
+    private static final int RUNS = 24000;
 
     private final Random random;
     private final Check check;
     private final int run;
-    private LogKeepers x;
+    private Counted x;
     private Model m;
     private final Model[] boxes = new Model[3];
     private int[] seen = new int[16];
@@ -53,10 +52,12 @@ public final class ModelTest {
         x = Check.made(text.toString());
         m = new Model(voters);
         int temper = random.nextInt(4);
-        for (int call = 0; call < CALLS; call++) {
-            step(temper);
-            if (call % 7 == 0 || call == CALLS - 1) {
-                lookAtAll();
+        int looks = 1 + random.nextInt(4);
+        while (x.left() > 0) {
+            if (random.nextInt(10) < looks) {
+                look();
+            } else {
+                step(temper);
             }
         }
     }
@@ -182,57 +183,88 @@ public final class ModelTest {
         }
     }
 
-    private void lookAtAll() {
-        for (int k = 0; k < m.keepers.size(); k++) {
-            lookAt(k);
-        }
-        for (int s = 0; s < 40; s++) {
-            Model.Letter l = m.post[s];
-            int[] want = new int[9];
-            Arrays.fill(want, Model.NONE);
-            if (l != null) {
-                want = new int[] {l.kind, l.from, l.to, l.term, l.a, l.b, l.entries.size(), l.done, l.round};
-            }
-            for (int what = 0; what < 9; what++) {
-                due("slot(" + s + ", " + what + ")", x.slot(s, what), want[what]);
-            }
-        }
-        due("letters", x.about(3), m.letters());
-        due("reads", x.about(4), m.reads.size());
-        for (int read = 0; read < m.reads.size(); read++) {
-            due("good(" + read + ")", x.good(read), m.good(read));
+    private void look() {
+        int k = random.nextInt(m.keepers.size());
+        switch (random.nextInt(6)) {
+            case 0:
+                lookAtKeeper(k, random.nextInt(10));
+                break;
+            case 1:
+                lookAtEntry(k, random.nextInt(6));
+                break;
+            case 2:
+                lookAtState(k, random.nextInt(20));
+                break;
+            case 3:
+                lookAtPeer(k, random.nextInt(m.keepers.size()), random.nextInt(3));
+                break;
+            case 4:
+                lookAtSlot(slot(), random.nextInt(9));
+                break;
+            default:
+                lookAtNumbers(random.nextInt(8));
+                break;
         }
     }
 
-    private void lookAt(int k) {
+    private void lookAtKeeper(int k, int what) {
         Model.Keeper it = m.at(k);
         int ballots = it.role == 0 ? 0 : it.ballots;
         int round = it.role == 2 ? it.round : 0;
         int[] want = {it.term, it.vote, it.role, it.folded, it.last(), it.done, it.fallen ? 1 : 0, ballots, round,
             it.voter ? 1 : 0};
-        for (int what = 0; what < want.length; what++) {
-            due("keeper(" + k + ", " + what + ")", x.keeper(k, what), want[what]);
-        }
         seen[6] += it.done;
-        for (int n = Math.max(0, it.folded - 1); n <= it.last() + 1; n++) {
-            Model.Entry e = n > it.folded && n <= it.last() ? it.log.get(n) : null;
-            due("entry(" + k + ", " + n + ", 0)", x.entry(k, n, 0), e == null ? Model.GAP : e.term);
-            due("entry(" + k + ", " + n + ", 2)", x.entry(k, n, 2), e == null ? Model.GAP : e.number);
-            due("entry(" + k + ", " + n + ", 5)", x.entry(k, n, 5), e == null ? Model.GAP : e.value);
+        due("keeper(" + k + ", " + what + ")", x.keeper(k, what), want[what]);
+    }
+
+    private void lookAtEntry(int k, int what) {
+        Model.Keeper it = m.at(k);
+        int n = it.folded - 1 + random.nextInt(it.last() - it.folded + 3);
+        Model.Entry e = n > it.folded && n <= it.last() ? it.log.get(n) : null;
+        int want = Model.GAP;
+        if (e != null) {
+            want = new int[] {e.term, e.client, e.number, e.what, e.cell, e.value}[what];
         }
-        int[] state = it.stateAt(it.done);
-        for (int cell = 0; cell < 8; cell++) {
-            due("state(" + k + ", " + cell + ")", x.state(k, cell), state[cell]);
+        due("entry(" + k + ", " + n + ", " + what + ")", x.entry(k, n, what), want);
+    }
+
+    private void lookAtState(int k, int part) {
+        Model.Keeper it = m.at(k);
+        int want = it.stateAt(it.done)[part];
+        if (part < 8) {
+            due("state(" + k + ", " + part + ")", x.state(k, part), want);
+        } else {
+            int client = (part - 8) % 6;
+            int what = (part - 8) / 6;
+            due("client(" + k + ", " + client + ", " + what + ")", x.client(k, client, what), want);
         }
-        for (int client = 0; client < 6; client++) {
-            due("client(" + k + ", " + client + ", 0)", x.client(k, client, 0), state[8 + client]);
-            due("client(" + k + ", " + client + ", 1)", x.client(k, client, 1), state[14 + client]);
+    }
+
+    private void lookAtPeer(int k, int other, int what) {
+        Model.Keeper it = m.at(k);
+        int want = Model.NONE;
+        if (m.leader(k) != null && other != k) {
+            want = new int[] {it.next[other], it.sure[other], it.answered[other]}[what];
         }
-        for (int other = 0; other < m.keepers.size(); other++) {
-            boolean leads = m.leader(k) != null && other != k;
-            due("peer(" + k + ", " + other + ", 0)", x.peer(k, other, 0), leads ? it.next[other] : Model.NONE);
-            due("peer(" + k + ", " + other + ", 1)", x.peer(k, other, 1), leads ? it.sure[other] : Model.NONE);
-            due("peer(" + k + ", " + other + ", 2)", x.peer(k, other, 2), leads ? it.answered[other] : Model.NONE);
+        due("peer(" + k + ", " + other + ", " + what + ")", x.peer(k, other, what), want);
+    }
+
+    private void lookAtSlot(int slot, int what) {
+        int want = Model.NONE;
+        if (m.full(slot)) {
+            Model.Letter l = m.post[slot];
+            want = new int[] {l.kind, l.from, l.to, l.term, l.a, l.b, l.entries.size(), l.done, l.round}[what];
         }
+        due("slot(" + slot + ", " + what + ")", x.slot(slot, what), want);
+    }
+
+    private void lookAtNumbers(int what) {
+        int up = 0;
+        for (Model.Keeper it : m.keepers) {
+            up += it.fallen ? 0 : 1;
+        }
+        int voters = m.voters();
+        int[] want = {m.keepers.size(), voters, (voters + 2) / 2, m.letters(), m.reads.size(), 0, 0, up};
+        due("about(" + what + ")", x.about(what), want[what]);
     }
 }

@@ -50,7 +50,7 @@ public final class PromisesTest {
     }
 
     private static void promise1() {
-        LogKeepers x = new LogKeepers();
+        Counted x = new Counted();
         for (int what = 0; what <= 7; what++) {
             due("1 about(" + what + ")", x.about(what), 0);
         }
@@ -74,7 +74,7 @@ public final class PromisesTest {
     }
 
     private static void promise2and3() {
-        LogKeepers x = new LogKeepers();
+        Counted x = new Counted();
         for (int i = 1; i <= 20; i++) {
             due("2 feed", x.feed(KEEPER, 0, 0, 0, 0), 20 * i);
         }
@@ -95,7 +95,7 @@ public final class PromisesTest {
     }
 
     private static void promise4() {
-        LogKeepers x = Check.led(3);
+        Counted x = Check.led(3);
         x.command(0, 1, 1, 0, 0, 7);
         Check.pass(x, 0, 1);
         x.read(0, 0);
@@ -129,7 +129,7 @@ public final class PromisesTest {
     }
 
     private static void promise4AllAsAtFirst() {
-        LogKeepers x = Check.led(3);
+        Counted x = Check.led(3);
         x.command(0, 1, 1, 0, 0, 7);
         Check.pass(x, 0, 1);
         x.fold(0, 1);
@@ -158,7 +158,7 @@ public final class PromisesTest {
     }
 
     private static void text(String text, int want, int fault, int place) {
-        LogKeepers x = new LogKeepers();
+        Counted x = new Counted();
         Check.lay(x, text);
         due("4 '" + text + "'", x.keepers(), want);
         due("5 fault of '" + text + "'", x.fault(0), fault);
@@ -220,7 +220,7 @@ public final class PromisesTest {
         text("keepers a;", NONE, 2, 0);
         text("keeper a{", NONE, 1, 8);
         text("keeper a`", NONE, 1, 8);
-        LogKeepers x = Check.made(1);
+        Counted x = Check.made(1);
         Check.lay(x, ";");
         x.keepers();
         due("5 latest", x.fault(0), 2);
@@ -231,7 +231,7 @@ public final class PromisesTest {
     }
 
     private static void promise6() {
-        LogKeepers x = Check.made("keeper a;keeper b silent;keeper c;keeper d;");
+        Counted x = Check.made("keeper a;keeper b silent;keeper c;keeper d;");
         due("6 silent", x.ask(1), NONE);
         due("6 none such", x.ask(4), NONE);
         due("6 none such", x.ask(-1), NONE);
@@ -259,7 +259,7 @@ public final class PromisesTest {
     }
 
     private static void promise6FullPost() {
-        LogKeepers x = Check.made(3);
+        Counted x = Check.made(3);
         for (int i = 1; i <= 19; i++) {
             x.ask(0);
         }
@@ -271,7 +271,7 @@ public final class PromisesTest {
         due("6 two slots are", x.ask(0), 20);
         due("6 least slot", x.slot(5, 3), 20);
         due("6 last slot", x.slot(39, 3), 20);
-        LogKeepers y = Check.made("keeper a;keeper b silent;");
+        Counted y = Check.made("keeper a;keeper b silent;");
         due("6 alone", y.ask(0), 1);
         for (int i = 0; i < 40; i++) {
             due("13 slot", y.append(0, 1), i);
@@ -283,7 +283,7 @@ public final class PromisesTest {
     }
 
     private static void promise7Asks() {
-        LogKeepers x = Check.made(5);
+        Counted x = Check.made(5);
         due("7 empty", x.deliver(0), NONE);
         due("7 none", x.deliver(-1), NONE);
         due("7 none", x.deliver(40), NONE);
@@ -318,7 +318,7 @@ public final class PromisesTest {
     }
 
     private static void promise7OldTerms() {
-        LogKeepers x = Check.led(3);
+        Counted x = Check.led(3);
         x.ask(1);
         x.ask(1);
         due("7 a greater term", x.deliver(0), 1);
@@ -329,7 +329,7 @@ public final class PromisesTest {
         due("7 ballots", x.keeper(0, 7), 0);
         Check.deliverAll(x);
         due("7 leads", x.keeper(1, 2), 2);
-        LogKeepers y = Check.led(3);
+        Counted y = Check.led(3);
         y.append(0, 2);
         y.ask(1);
         y.deliver(2);
@@ -347,8 +347,8 @@ public final class PromisesTest {
     }
 
     /** Two rows that part behind entry 2: keeper 0 has 5 of term 1, keeper 1 leads in term 2 with 3. */
-    private static LogKeepers parted() {
-        LogKeepers x = Check.led(3);
+    private static Counted parted() {
+        Counted x = Check.led(3);
         x.command(0, 0, 1, 0, 0, 1);
         x.command(0, 0, 2, 0, 0, 2);
         Check.pass(x, 0, 1);
@@ -365,7 +365,7 @@ public final class PromisesTest {
     }
 
     private static void promise7Appends() {
-        LogKeepers x = parted();
+        Counted x = parted();
         due("7 last of the old one", x.keeper(0, 4), 5);
         due("7 done of the old one", x.keeper(0, 5), 2);
         x.append(1, 0);
@@ -377,7 +377,7 @@ public final class PromisesTest {
         due("7 number", x.slot(0, 5), 3);
         x.deliver(0);
         due("7 done", x.keeper(1, 5), 3);
-        LogKeepers y = parted();
+        Counted y = parted();
         y.fall(0);
         y.fall(1);
         y.rise(1);
@@ -398,7 +398,7 @@ public final class PromisesTest {
         due("7 number", y.slot(0, 5), 2);
         y.deliver(0);
         due("7 next", y.peer(1, 0, 0), 3);
-        LogKeepers z = Check.led(3);
+        Counted z = Check.led(3);
         for (int i = 1; i <= 7; i++) {
             z.command(0, 0, i, 1, 0, 1);
         }
@@ -418,7 +418,7 @@ public final class PromisesTest {
     }
 
     private static void promise7AppendNoRoom() {
-        LogKeepers x = Check.led(3);
+        Counted x = Check.led(3);
         for (int i = 1; i <= 40; i++) {
             due("12 number", x.command(0, 0, i, 1, 0, 1), i);
             if (i % 5 == 0) {
@@ -444,7 +444,7 @@ public final class PromisesTest {
     }
 
     private static void promise7AppendOfFolded() {
-        LogKeepers x = Check.led(3);
+        Counted x = Check.led(3);
         for (int i = 1; i <= 6; i++) {
             x.command(0, 0, i, 1, 0, 1);
         }
@@ -465,7 +465,7 @@ public final class PromisesTest {
     }
 
     private static void promise7Folding() {
-        LogKeepers x = Check.led(3);
+        Counted x = Check.led(3);
         for (int i = 1; i <= 4; i++) {
             x.command(0, 2, i, 1, 3, i);
         }
@@ -502,7 +502,7 @@ public final class PromisesTest {
     }
 
     private static void foldingOverOtherEntries() {
-        LogKeepers x = parted();
+        Counted x = parted();
         Check.pass(x, 1, 2);
         due("7 done", x.keeper(1, 5), 3);
         x.fold(1, 3);
@@ -534,7 +534,7 @@ public final class PromisesTest {
 
     /** Entry 3 is there, but of another term: those behind it go. */
     private static void foldingWithoutTheEntry() {
-        LogKeepers x = parted();
+        Counted x = parted();
         Check.pass(x, 1, 2);
         x.fold(1, 3);
         due("7 next", x.peer(1, 0, 0), 3);
@@ -548,7 +548,7 @@ public final class PromisesTest {
     }
 
     private static void promise7Answers() {
-        LogKeepers x = Check.led(3);
+        Counted x = Check.led(3);
         for (int i = 1; i <= 3; i++) {
             x.command(0, 0, i, 1, 0, 1);
         }
@@ -589,7 +589,7 @@ public final class PromisesTest {
     }
 
     private static void promise7Done() {
-        LogKeepers x = Check.made("keeper a;keeper b;keeper c;keeper d silent;keeper e silent;");
+        Counted x = Check.made("keeper a;keeper b;keeper c;keeper d silent;keeper e silent;");
         x.ask(0);
         Check.deliverAll(x);
         x.command(0, 0, 1, 0, 0, 1);
@@ -600,7 +600,7 @@ public final class PromisesTest {
         due("7 silent ones have it", x.keeper(3, 4), 1);
         Check.pass(x, 0, 1);
         due("7 most of the voters", x.keeper(0, 5), 1);
-        LogKeepers y = Check.led(5);
+        Counted y = Check.led(5);
         y.command(0, 0, 1, 0, 0, 1);
         y.command(0, 0, 2, 0, 0, 2);
         Check.pass(y, 0, 1);
@@ -610,14 +610,14 @@ public final class PromisesTest {
         Check.pass(y, 0, 3);
         due("7 three of five", y.keeper(0, 5), 3);
         due("7 answer", y.client(0, 0, 1), 2);
-        LogKeepers z = parted();
+        Counted z = parted();
         Check.pass(z, 1, 2);
         due("7 with one of its own, the older ones", z.keeper(1, 5), 3);
         due("7 cells", z.state(1, 0), 2);
     }
 
     private static void promise8and9() {
-        LogKeepers x = Check.made(3);
+        Counted x = Check.made(3);
         due("8 empty", x.drop(0), NONE);
         due("8 none", x.drop(-1), NONE);
         due("8 none", x.drop(40), NONE);
@@ -648,7 +648,7 @@ public final class PromisesTest {
         due("9 its round", x.slot(7, 8), 40);
         x.deliver(7);
         due("8 answer", x.drop(7), 3);
-        LogKeepers y = Check.led(3);
+        Counted y = Check.led(3);
         y.command(0, 0, 1, 0, 0, 4);
         y.append(0, 1);
         y.twice(0);
@@ -665,7 +665,7 @@ public final class PromisesTest {
     }
 
     private static void promise10and11() {
-        LogKeepers x = Check.led(3);
+        Counted x = Check.led(3);
         due("10 none", x.fall(3), false);
         due("10 none", x.fall(-1), false);
         due("11 none", x.rise(3), false);
@@ -712,7 +712,7 @@ public final class PromisesTest {
     }
 
     private static void promise12() {
-        LogKeepers x = Check.led(3);
+        Counted x = Check.led(3);
         due("12 follows", x.command(1, 0, 1, 0, 0, 0), NONE);
         due("12 none", x.command(3, 0, 1, 0, 0, 0), NONE);
         due("12 none", x.command(-1, 0, 1, 0, 0, 0), NONE);
@@ -734,7 +734,7 @@ public final class PromisesTest {
         due("12 one that asks", x.command(1, 0, 1, 0, 0, 0), NONE);
     }
 
-    private static void counted(LogKeepers x, int what, int value, int cell, int answer) {
+    private static void counted(Counted x, int what, int value, int cell, int answer) {
         int number = x.client(0, 0, 0) + 1;
         x.command(0, 0, number, what, 0, value);
         due("12 what " + what + " " + value + ": cell", x.state(0, 0), cell);
@@ -742,7 +742,7 @@ public final class PromisesTest {
     }
 
     private static void promise12Whats() {
-        LogKeepers x = Check.led(1);
+        Counted x = Check.led(1);
         int max = Integer.MAX_VALUE;
         counted(x, 3, 0, 0, 1);
         counted(x, 3, 7, 7, 1);
@@ -770,7 +770,7 @@ public final class PromisesTest {
     }
 
     private static void promise13() {
-        LogKeepers x = Check.led(3);
+        Counted x = Check.led(3);
         due("13 itself", x.append(0, 0), NONE);
         due("13 follows", x.append(1, 0), NONE);
         due("13 none", x.append(0, 3), NONE);
@@ -806,7 +806,7 @@ public final class PromisesTest {
     }
 
     private static void promise14() {
-        LogKeepers x = Check.led(3);
+        Counted x = Check.led(3);
         due("14 none", x.fold(0, 0), NONE);
         due("14 none", x.fold(0, 1), NONE);
         for (int i = 1; i <= 5; i++) {
@@ -836,7 +836,7 @@ public final class PromisesTest {
     }
 
     private static void promise15and16() {
-        LogKeepers x = Check.led(5);
+        Counted x = Check.led(5);
         due("15 nothing done of its term", x.read(0, 0), NONE);
         x.command(0, 0, 1, 0, 0, GAP);
         Check.pass(x, 0, 1);
@@ -877,7 +877,7 @@ public final class PromisesTest {
     }
 
     private static void promise16OverTerms() {
-        LogKeepers x = Check.made("keeper a;keeper b silent;");
+        Counted x = Check.made("keeper a;keeper b silent;");
         x.ask(0);
         x.command(0, 0, 1, 0, 0, 3);
         due("15 alone", x.read(0, 0), 0);
@@ -891,7 +891,7 @@ public final class PromisesTest {
         due("16 still another term", x.good(0), GAP);
         due("15 now", x.read(0, 0), 1);
         due("16 now", x.good(1), 4);
-        LogKeepers told = Check.made("keeper a;");
+        Counted told = Check.made("keeper a;");
         for (int time = 0; time < 2; time++) {
             told.ask(0);
             told.command(0, 0, 1, 0, 0, 3);
@@ -901,7 +901,7 @@ public final class PromisesTest {
             Check.lay(told, "keeper a;");
             told.keepers();
         }
-        LogKeepers y = Check.made("keeper a;keeper b;keeper c;keeper d silent;");
+        Counted y = Check.made("keeper a;keeper b;keeper c;keeper d silent;");
         y.ask(0);
         Check.deliverAll(y);
         y.command(0, 0, 1, 0, 0, 3);
@@ -920,7 +920,7 @@ public final class PromisesTest {
     }
 
     private static void promise17() {
-        LogKeepers x = Check.made("keeper a;keeper b;keeper c silent;");
+        Counted x = Check.made("keeper a;keeper b;keeper c silent;");
         for (int what = 0; what <= 9; what++) {
             due("17 none", x.keeper(3, what), -2);
             due("17 none", x.keeper(-1, what), -2);
@@ -945,7 +945,7 @@ public final class PromisesTest {
     }
 
     private static void promise18to20() {
-        LogKeepers x = Check.led(3);
+        Counted x = Check.led(3);
         x.command(0, 3, 4, 1, 2, 6);
         int[] parts = {1, 3, 4, 1, 2, 6};
         for (int what = 0; what < 6; what++) {
@@ -984,7 +984,7 @@ public final class PromisesTest {
     }
 
     private static void promise21() {
-        LogKeepers x = Check.led(3);
+        Counted x = Check.led(3);
         x.command(0, 0, 1, 0, 0, 0);
         due("21 next", x.peer(0, 1, 0), 1);
         due("21 sure", x.peer(0, 1, 1), 0);
@@ -1012,7 +1012,7 @@ public final class PromisesTest {
         due("21 fallen", x.peer(1, 0, 0), NONE);
     }
 
-    private static void letter(LogKeepers x, int slot, int... want) {
+    private static void letter(Counted x, int slot, int... want) {
         for (int what = 0; what < want.length; what++) {
             due("22 slot(" + slot + ", " + what + ")", x.slot(slot, what), want[what]);
         }
@@ -1021,7 +1021,7 @@ public final class PromisesTest {
     }
 
     private static void promise22() {
-        LogKeepers x = Check.led(3);
+        Counted x = Check.led(3);
         x.command(0, 0, 1, 0, 0, 0);
         x.command(0, 0, 2, 0, 0, 0);
         x.append(0, 1);
@@ -1042,7 +1042,7 @@ public final class PromisesTest {
     }
 
     private static void promise23and24() {
-        LogKeepers x = new LogKeepers();
+        Counted x = new Counted();
         due("23 begun", x.note(-1, 0, 0, 0, 0), NONE);
         due("23 ended", x.note(2, 1, 0, 0, 0), NONE);
         due("23 ended", x.note(0, 10000, 0, 0, 0), NONE);
@@ -1063,7 +1063,7 @@ public final class PromisesTest {
     }
 
     private static void promise25and26() {
-        LogKeepers x = new LogKeepers();
+        Counted x = new Counted();
         due("25 empty", x.judge(), 1);
         due("26 empty", x.order(0), NONE);
         x.note(5, 6, 0, 2, 1);
@@ -1107,7 +1107,7 @@ public final class PromisesTest {
     }
 
     private static void promise27and28() {
-        LogKeepers x = Check.led(3);
+        Counted x = Check.led(3);
         due("27 none", x.image(-1), NONE);
         due("27 none", x.image(3), NONE);
         due("28 none", x.back(-1), NONE);
@@ -1152,7 +1152,7 @@ public final class PromisesTest {
 
     /** A read of one leader is kept; then another leads and reads. */
     private static void promise28Reads() {
-        LogKeepers x = Check.led(3);
+        Counted x = Check.led(3);
         x.command(0, 0, 1, 0, 0, 5);
         x.command(0, 0, 2, 0, 3, 6);
         Check.pass(x, 0, 1);
@@ -1186,7 +1186,7 @@ public final class PromisesTest {
     }
 
     private static void promise29() {
-        LogKeepers x = Check.made("keeper a;keeper b;keeper c silent;keeper d;keeper e;");
+        Counted x = Check.made("keeper a;keeper b;keeper c silent;keeper d;keeper e;");
         x.feed(0, 0, 0, 0, 0);
         x.note(0, 0, 0, 0, 0);
         x.ask(0);

@@ -19,8 +19,7 @@ public final class TextTest {
         Check check = new Check("TextTest");
         Random random = new Random(5);
         int[] faults = new int[5];
-        LogKeepers x = new LogKeepers();
-        for (int run = 0; run < 200000; run++) {
+        for (int run = 0; run < 100000; run++) {
             StringBuilder text = new StringBuilder();
             int tidy = random.nextInt(3);
             for (int i = random.nextInt(16); i > 0; i--) {
@@ -31,6 +30,7 @@ public final class TextTest {
             TextTest due = new TextTest();
             due.look(told);
             faults[due.fault]++;
+            Counted x = new Counted();
             Check.lay(x, told);
             check.due("keepers of '" + told + "'", x.keepers(), due.fault == 0 ? due.count : -1);
             check.due("fault of '" + told + "'", x.fault(0), due.fault);
@@ -38,7 +38,7 @@ public final class TextTest {
             check.due("tape behind '" + told + "'", x.about(6), 0);
         }
         for (int fault = 0; fault < 5; fault++) {
-            check.due("texts of fault " + fault + " are too few", faults[fault] > 500, true);
+            check.due("texts of fault " + fault + " are too few", faults[fault] > 250, true);
         }
         check.finish();
     }

@@ -7,8 +7,10 @@ public final class WildTest {
     private static final String[] TEXTS = {"keeper a;keeper b;keeper c;", "keeper a;", "keeper a;keeper b silent;",
         "keeper a;keeper b;keeper c;keeper d;keeper e;keeper f;keeper g;", "keeper a"};
 
+    private static final int LOOKS = 80;
+
     private final Random random;
-    private final LogKeepers x = new LogKeepers();
+    private final Counted x = new Counted();
 
     private WildTest(int seed) {
         random = new Random(seed);
@@ -17,15 +19,11 @@ public final class WildTest {
     public static void main(String[] args) {
         Check check = new Check("WildTest");
         for (int run = 0; run < 3000; run++) {
-            WildTest test = new WildTest(run);
             try {
-                for (int call = 0; call < 512; call++) {
-                    test.step();
-                }
+                check.due("run " + run + ": what is done parts", agree(run), true);
             } catch (RuntimeException thrown) {
                 check.due("run " + run + " threw " + thrown, 1, 0);
             }
-            check.due("run " + run + ": what is done parts", test.agree(), true);
         }
         check.finish();
     }
@@ -146,17 +144,27 @@ public final class WildTest {
         }
     }
 
-    private boolean agree() {
-        for (int a = 0; a < x.about(0); a++) {
-            for (int b = 0; b < a; b++) {
-                int done = Math.min(x.keeper(a, 5), x.keeper(b, 5));
-                for (int entry = 1; entry <= done; entry++) {
-                    int termOfA = x.entry(a, entry, 0);
-                    int termOfB = x.entry(b, entry, 0);
-                    if (termOfA != termOfB && termOfA != LogKeepers.GAP && termOfB != LogKeepers.GAP) {
-                        return false;
-                    }
+    private void go() {
+        while (x.left() > LOOKS + 25) {
+            step();
+        }
+    }
+
+    /** Whether keepers have the same terms of entries that are done; each is looked at behind the same run, made anew. */
+    private static boolean agree(int run) {
+        int[] terms = new int[LOOKS];
+        int keepers = 1;
+        for (int k = 0; k < keepers; k++) {
+            WildTest test = new WildTest(run);
+            test.go();
+            keepers = test.x.about(0);
+            int done = test.x.keeper(k, 5);
+            for (int entry = 1; entry <= done && entry < LOOKS - 2; entry++) {
+                int term = test.x.entry(k, entry, 0);
+                if (term != LogKeepers.GAP && terms[entry] != 0 && terms[entry] != term) {
+                    return false;
                 }
+                terms[entry] = term == LogKeepers.GAP ? terms[entry] : term;
             }
         }
         return true;
