@@ -27,6 +27,7 @@ public final class AppendEdgesTest {
         foldingAtDone();
         foldingKeepsEntriesBehind();
         foldingOverOthers();
+        foldingBringsItsTerm();
         foldingFarAhead();
         answerOfLesserTerm();
         answerToOneThatDoesNotLead();
@@ -550,6 +551,23 @@ public final class AppendEdgesTest {
         x.fall(0);
         due("10 the fold is saved", x.keeper(0, 3), 2);
         due("10 with its state", x.state(0, 0), 2);
+    }
+
+    /** The fold comes with the term of its last one: what is then asked, and who may be voted for, goes by it. */
+    private static void foldingBringsItsTerm() {
+        Counted x = Check.led(3);
+        elect(x, 1, 2);
+        elect(x, 0, 2);
+        commands(x, 0, 2);
+        Check.pass(x, 0, 1);
+        x.fold(0, 2);
+        x.append(0, 2);
+        due("22 folding", x.slot(0, 0), 4);
+        x.deliver(0);
+        x.drop(0);
+        x.ask(2);
+        due("22 last is folded", x.slot(0, 4), 2);
+        due("22 its term", x.slot(0, 5), 3);
     }
 
     private static void foldingFarAhead() {

@@ -15,6 +15,8 @@ public final class BoxEdgesTest {
         lettersAreCounted();
         lettersWithAllTheyHave();
         keepersWithAllTheyHave();
+        laterOnesAreGone();
+        allAsAtFirst();
         leadersWithTheirPeers();
         readsAreKept();
         fallenStayFallen();
@@ -194,6 +196,79 @@ public final class BoxEdgesTest {
         x.fall(0);
         due("28 the fold's state", x.state(0, 2), 20);
         due("28 not more", x.state(0, 3), 0);
+    }
+
+    /** What came behind the image is gone: entries, a greater fold with its state, the term of that. */
+    private static void laterOnesAreGone() {
+        Counted x = Check.led(1);
+        x.command(0, 0, 1, 1, 0, 5);
+        x.fold(0, 1);
+        x.image(0);
+        x.fall(0);
+        x.rise(0);
+        x.ask(0);
+        x.command(0, 0, 2, 1, 0, 5);
+        x.command(0, 0, 3, 1, 0, 5);
+        x.fold(0, 2);
+        x.image(1);
+        x.back(0);
+        due("17 last", x.keeper(0, 4), 1);
+        due("17 folded", x.keeper(0, 3), 1);
+        due("18 none behind", x.entry(0, 2, 0), GAP);
+        due("15 the fold's term is its own", x.read(0, 0), 0);
+        x.fall(0);
+        due("19 the fold's state", x.state(0, 0), 5);
+        x.back(1);
+        due("17 last", x.keeper(0, 4), 3);
+        due("18 one behind", x.entry(0, 3, 0), 2);
+        x.fall(0);
+        due("19 the fold's state", x.state(0, 0), 10);
+    }
+
+    /** All as at first, the post empty, no reads: whatever was before. */
+    private static void allAsAtFirst() {
+        Counted x = Check.led(3);
+        for (int i = 1; i <= 3; i++) {
+            x.command(0, 0, i, 1, 0, 5);
+        }
+        Check.pass(x, 0, 1);
+        Check.pass(x, 0, 1);
+        for (int k = 0; k < 2; k++) {
+            x.fold(k, 2);
+        }
+        x.read(0, 0);
+        x.ask(2);
+        x.append(0, 1);
+        x.fall(1);
+        Check.lay(x, "keeper a;keeper b;keeper c;");
+        x.keepers();
+        int[] first = {0, NONE, 0, 0, 0, 0, 0, 0, 0, 1};
+        for (int k = 0; k < 3; k++) {
+            for (int what = 0; what <= 9; what++) {
+                due("4 keeper(" + k + ", " + what + ")", x.keeper(k, what), first[what]);
+            }
+            for (int entry = 0; entry <= 4; entry++) {
+                due("4 no entry", x.entry(k, entry, 0), GAP);
+            }
+            due("4 cell", x.state(k, 0), 0);
+            due("4 latest", x.client(k, 0, 0), 0);
+            due("4 answer", x.client(k, 0, 1), 0);
+        }
+        for (int slot = 0; slot < 40; slot++) {
+            due("4 no letter", x.slot(slot, 0), NONE);
+        }
+        due("29 no letters", x.about(3), 0);
+        due("29 no reads", x.about(4), 0);
+        due("29 all stand", x.about(7), 3);
+        x.fall(0);
+        due("4 no fold", x.state(0, 0), 0);
+        x.rise(0);
+        x.ask(0);
+        due("4 the term of 0", x.slot(0, 5), 0);
+        Check.deliverAll(x);
+        due("4 next", x.peer(0, 1, 0), 1);
+        due("4 sure", x.peer(0, 1, 1), 0);
+        due("4 answered", x.peer(0, 1, 2), 0);
     }
 
     private static void leadersWithTheirPeers() {

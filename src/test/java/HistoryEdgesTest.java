@@ -97,6 +97,7 @@ public final class HistoryEdgesTest {
             for (int i = 0; i < n; i++) {
                 x.note(0, 0, 0, 1, 5);
             }
+            due("25 wrong before", x.judge(), n == 0 ? 1 : 0);
             due("24 there were", x.hush(), n);
             due("29 none then", x.about(5), 0);
             due("25 an empty one is right", x.judge(), 1);

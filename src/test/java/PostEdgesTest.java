@@ -16,6 +16,7 @@ public final class PostEdgesTest {
         twiceNeedsSlot();
         deliverFindsSlot();
         letterOfEachKind();
+        slotUsedAgain();
         otherWhats();
         twiceIsTheSame();
         CHECK.finish();
@@ -229,6 +230,36 @@ public final class PostEdgesTest {
         letter("ask of an empty row", x, slot, 0, 2, 1, 3, 0, 0, 0, 0, 0);
         x.deliver(slot);
         letter("no ballot", x, slot, 1, 1, 2, 3, 0, 0, 0, 0, 0);
+    }
+
+    /** Nothing of a letter that was in the slot before shows in the next one there. */
+    private static void slotUsedAgain() {
+        Counted x = Check.led(3);
+        for (int i = 1; i <= 3; i++) {
+            x.command(0, 0, i, 0, 0, i);
+        }
+        Check.pass(x, 0, 1);
+        x.command(0, 0, 4, 0, 0, 4);
+        x.append(0, 1);
+        letter("append", x, 0, 2, 0, 1, 1, 3, 1, 1, 3, 2);
+        x.drop(0);
+        x.ask(2);
+        letter("ask", x, 0, 0, 2, 0, 2, 0, 0, 0, 0, 0);
+        x.drop(0);
+        x.drop(1);
+        x.append(0, 1);
+        x.drop(0);
+        x.fold(0, 3);
+        x.append(0, 2);
+        letter("folding", x, 0, 4, 0, 2, 1, 3, 1, 0, 0, 4);
+        x.deliver(0);
+        letter("answer", x, 0, 3, 2, 0, 2, 0, 0, 0, 0, 4);
+        x.drop(0);
+        x.append(0, 1);
+        x.drop(0);
+        x.ask(1);
+        x.deliver(1);
+        letter("ballot", x, 1, 1, 2, 1, 2, 0, 0, 0, 0, 0);
     }
 
     private static void otherWhats() {

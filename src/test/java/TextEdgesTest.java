@@ -256,6 +256,16 @@ public final class TextEdgesTest {
             due("4 voter " + k, x.keeper(k, 9), voter[k]);
         }
         due("29 voters", x.about(1), 2);
+        Check.lay(x, "keeper z;keeper m;keeper a silent;keeper b silent;");
+        x.keepers();
+        int[] anew = {1, 1, 0, 0, -2};
+        for (int k = 0; k < anew.length; k++) {
+            due("4 voter " + k + ", told anew", x.keeper(k, 9), anew[k]);
+        }
+        Check.lay(x, "keeper z;");
+        x.keepers();
+        due("4 fewer than before", x.about(0), 1);
+        due("4 the others are gone", x.keeper(1, 9), -2);
     }
 
     private static void mostOfVoters() {
