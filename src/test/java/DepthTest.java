@@ -9,9 +9,15 @@ import java.util.regex.Matcher;
 import java.util.regex.Pattern;
 import java.util.spi.ToolProvider;
 
-/** How deep calls go that are no recursion, and which methods call themselves: seen in the compiled classes. */
+/**
+ * How deep calls go that are no recursion, which methods call themselves, and what is called of the library: seen in
+ * the compiled classes.
+ */
 public final class DepthTest {
     private static final int DEEPEST = 8;
+    private static final Set<String> LIBRARY = Set.of("java/lang/Object.<init>", "java/lang/String.length",
+            "java/lang/String.charAt", "java/lang/Math.max", "java/lang/Math.min", "java/lang/Integer.bitCount",
+            "java/lang/System.arraycopy");
     private static final Pattern CALLED = Pattern.compile("// (?:Interface)?Method (?:([\\w$/]+)\\.)?\"?([\\w$<>]+)\"?:");
     private static final Pattern METHOD = Pattern.compile("  \\S.*?([\\w$]+)\\(.*\\);");
 
@@ -35,6 +41,10 @@ public final class DepthTest {
             check.due("too deep: " + chain, chain.split(" > ").length <= DEEPEST, true);
             boolean search = method.equals("LogKeepers$History.canGoOn");
             check.due(method + " calls itself", test.comesBackTo(method), search);
+            for (String called : test.calls.get(method)) {
+                boolean known = called.startsWith("LogKeepers") || LIBRARY.contains(called);
+                check.due(method + " calls " + called + ", which may be called", known, true);
+            }
         }
         check.finish();
     }

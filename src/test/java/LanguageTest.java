@@ -53,6 +53,8 @@ public final class LanguageTest {
             int want = constant ? Modifier.PUBLIC : Modifier.PRIVATE;
             int seenAs = field.getModifiers() & (Modifier.PUBLIC | Modifier.PRIVATE | Modifier.PROTECTED);
             CHECK.due(field + " is seen as due", seenAs, want);
+            boolean fixed = field.getType() == int.class && Modifier.isStatic(field.getModifiers());
+            CHECK.due(field + " is an int of the class", constant && !fixed, false);
             staticIsFinal(field);
         }
         CHECK.due("the class is public and final",
@@ -68,6 +70,8 @@ public final class LanguageTest {
 
     private static void nested(Class<?> nested) {
         CHECK.due(nested + " is static", Modifier.isStatic(nested.getModifiers()), true);
+        int open = nested.getModifiers() & (Modifier.PUBLIC | Modifier.PROTECTED);
+        CHECK.due(nested + " is private or package-visible", open, 0);
         Set<String> names = new TreeSet<>();
         for (String call : FACE.split(" ")) {
             names.add(call.substring(0, call.indexOf('(')));
