@@ -32,7 +32,9 @@ public final class AppendEdgesTest {
         answerOfLesserTerm();
         answerToOneThatDoesNotLead();
         greatestRoundCounts();
+        roundOfEarlierTerm();
         sureIfMore();
+        nextBehindYes();
         nextOfNo();
         nextIsOneAtLeast();
         mostAreSure();
@@ -642,6 +644,32 @@ public final class AppendEdgesTest {
         due("21 the other one", x.peer(0, 2, 2), 0);
     }
 
+    /** A no to an append of term 1 has the term of who sends it: to one that leads in term 2 it counts. */
+    private static void roundOfEarlierTerm() {
+        Counted x = Check.led(3);
+        commands(x, 0, 2);
+        x.append(0, 1);
+        x.append(0, 1);
+        x.drop(0);
+        x.fall(0);
+        x.rise(0);
+        due("6 term 2", x.ask(0), 2);
+        x.deliver(0);
+        x.deliver(0);
+        due("17 leads", x.keeper(0, 2), 2);
+        due("17 its round", x.keeper(0, 8), 0);
+        due("21 next", x.peer(0, 1, 0), 3);
+        due("7 the append of term 1 is answered", x.deliver(1), 1);
+        answer("7 of a lesser term", x, 0, 0, 0);
+        due("22 the term of who sends it", x.slot(0, 3), 2);
+        due("22 the round of what it answers", x.slot(0, 8), 2);
+        due("7 taken", x.deliver(0), 0);
+        due("21 answered", x.peer(0, 1, 2), 2);
+        due("21 next", x.peer(0, 1, 0), 1);
+        due("21 sure", x.peer(0, 1, 1), 0);
+        due("17 its round stays", x.keeper(0, 8), 0);
+    }
+
     private static void sureIfMore() {
         Counted x = Check.led(3);
         commands(x, 0, 1);
@@ -658,6 +686,38 @@ public final class AppendEdgesTest {
         due("21 sure stays", x.peer(0, 1, 1), 2);
         due("21 next is sure + 1", x.peer(0, 1, 0), 3);
         due("17 done", x.keeper(0, 5), 2);
+    }
+
+    /** A late no takes NEXT below SURE; a late yes that tells less than SURE brings it back. */
+    private static void nextBehindYes() {
+        Counted x = Check.led(3);
+        commands(x, 0, 2);
+        Check.pass(x, 0, 2);
+        commands(x, 0, 2);
+        Check.pass(x, 0, 1);
+        elect(x, 1, 2);
+        x.append(1, 2);
+        x.deliver(0);
+        answer("7 above last", x, 0, 0, 2);
+        x.twice(0);
+        x.deliver(0);
+        due("22 the next letter", x.append(1, 2), 0);
+        x.twice(0);
+        due("22 the no, and the append twice", x.about(3), 3);
+        commands(x, 1, 1);
+        x.append(1, 2);
+        x.deliver(3);
+        x.deliver(3);
+        due("21 sure", x.peer(1, 2, 1), 5);
+        due("21 next", x.peer(1, 2, 0), 6);
+        x.deliver(1);
+        due("21 a no behind it: next", x.peer(1, 2, 0), 3);
+        due("21 a no behind it: sure", x.peer(1, 2, 1), 5);
+        x.deliver(0);
+        answer("7 tells less than sure", x, 0, 1, 4);
+        x.deliver(0);
+        due("21 a yes behind it: next", x.peer(1, 2, 0), 6);
+        due("21 a yes behind it: sure", x.peer(1, 2, 1), 5);
     }
 
     /** Keeper 2 has two entries, the leader 1 has three: the no tells 2, and comes three times. */
