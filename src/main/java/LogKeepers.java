@@ -581,6 +581,8 @@ public final class LogKeepers {
         final int[] next = new int[MAX_KEEPERS];
         final int[] sure = new int[MAX_KEEPERS];
         final int[] answered = new int[MAX_KEEPERS];
+        /** As answered, but of rounds of the present term alone: older ones came ahead of every read of it. */
+        final int[] heard = new int[MAX_KEEPERS];
 
         void begin(boolean isVoter) {
             voter = isVoter;
@@ -614,6 +616,7 @@ public final class LogKeepers {
             System.arraycopy(other.next, 0, next, 0, MAX_KEEPERS);
             System.arraycopy(other.sure, 0, sure, 0, MAX_KEEPERS);
             System.arraycopy(other.answered, 0, answered, 0, MAX_KEEPERS);
+            System.arraycopy(other.heard, 0, heard, 0, MAX_KEEPERS);
         }
 
         int tell(int what) {
@@ -662,6 +665,7 @@ public final class LogKeepers {
                 next[i] = last + 1;
                 sure[i] = 0;
                 answered[i] = 0;
+                heard[i] = 0;
             }
         }
 
@@ -765,6 +769,8 @@ public final class LogKeepers {
         int count;
         int done;
         int round;
+        /** The term in which the round came; an answer may have a later term than what it answers. */
+        int roundTerm;
         final int[] entries = new int[MAX_ENTRIES * WIDTH];
         final State fold = new State();
 
@@ -778,6 +784,7 @@ public final class LogKeepers {
             count = 0;
             done = 0;
             round = 0;
+            roundTerm = itsTerm;
         }
 
         void copyFrom(Letter other) {
@@ -790,6 +797,7 @@ public final class LogKeepers {
             count = other.count;
             done = other.done;
             round = other.round;
+            roundTerm = other.roundTerm;
             System.arraycopy(other.entries, 0, entries, 0, MAX_ENTRIES * WIDTH);
             fold.copyFrom(other.fold);
         }
@@ -1129,6 +1137,7 @@ public final class LogKeepers {
             back.first = yes ? 1 : 0;
             back.second = number;
             back.round = letter.round;
+            back.roundTerm = letter.roundTerm;
             return 1;
         }
 
@@ -1161,6 +1170,9 @@ public final class LogKeepers {
             }
             int from = letter.sender;
             k.answered[from] = Math.max(k.answered[from], letter.round);
+            if (letter.roundTerm == k.term) {
+                k.heard[from] = Math.max(k.heard[from], letter.round);
+            }
             if (letter.first == 1) {
                 k.sure[from] = Math.max(k.sure[from], letter.second);
                 k.next[from] = k.sure[from] + 1;
@@ -1236,7 +1248,7 @@ public final class LogKeepers {
             }
             int answered = 0;
             for (int i = 0; i < count; i++) {
-                if (keepers[i].voter && (i == keeper || keepers[keeper].answered[i] > reads.round[read])) {
+                if (keepers[i].voter && (i == keeper || keepers[keeper].heard[i] > reads.round[read])) {
                     answered++;
                 }
             }

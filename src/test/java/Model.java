@@ -28,6 +28,7 @@ final class Model {
         int b;
         int done;
         int round;
+        int moment;
         List<Entry> entries = new ArrayList<>();
         int[] state;
     }
@@ -49,6 +50,8 @@ final class Model {
         int[] next = new int[7];
         int[] sure = new int[7];
         int[] answered = new int[7];
+        /** When the latest sent of the rounds that each one answered was sent. */
+        int[] heard = new int[7];
 
         int last() {
             return log.size() - 1;
@@ -111,6 +114,7 @@ final class Model {
             c.next = next.clone();
             c.sure = sure.clone();
             c.answered = answered.clone();
+            c.heard = heard.clone();
             return c;
         }
     }
@@ -118,6 +122,8 @@ final class Model {
     List<Keeper> keepers = new ArrayList<>();
     Letter[] post = new Letter[40];
     List<int[]> reads = new ArrayList<>();
+    /** One more with each append, of any keeper in any term: what came behind a read has a greater one. */
+    int moment;
 
     Model(boolean[] voters) {
         for (boolean voter : voters) {
@@ -134,6 +140,7 @@ final class Model {
         }
         c.post = post.clone();
         c.reads = new ArrayList<>(reads);
+        c.moment = moment;
         return c;
     }
 
@@ -216,6 +223,7 @@ final class Model {
             Arrays.fill(x.next, x.last() + 1);
             Arrays.fill(x.sure, 0);
             Arrays.fill(x.answered, 0);
+            Arrays.fill(x.heard, 0);
         }
     }
 
@@ -267,6 +275,8 @@ final class Model {
             l.done = x.done;
         }
         l.round = x.round;
+        moment++;
+        l.moment = moment;
         return put(l);
     }
 
@@ -306,7 +316,7 @@ final class Model {
         if (x == null || cell < 0 || cell > 7 || x.termAt(x.done) != x.term || reads.size() == 40) {
             return NONE;
         }
-        reads.add(new int[] {k, cell, x.term, x.round});
+        reads.add(new int[] {k, cell, x.term, moment});
         return reads.size() - 1;
     }
 
@@ -321,7 +331,7 @@ final class Model {
         }
         int heard = 0;
         for (int i = 0; i < keepers.size(); i++) {
-            heard += at(i).voter && (i == r[0] || x.answered[i] >= r[3] + 1) ? 1 : 0;
+            heard += at(i).voter && (i == r[0] || x.heard[i] > r[3]) ? 1 : 0;
         }
         return most(heard) ? x.stateAt(x.done)[r[1]] : GAP;
     }
@@ -389,6 +399,7 @@ final class Model {
     private void answer(Letter l, int yes, int number) {
         Letter a = letter(3, l.to, l.from, yes, number);
         a.round = l.round;
+        a.moment = l.moment;
         put(a);
     }
 
@@ -398,6 +409,9 @@ final class Model {
         }
         if (l.round > x.answered[l.from]) {
             x.answered[l.from] = l.round;
+        }
+        if (l.moment > x.heard[l.from]) {
+            x.heard[l.from] = l.moment;
         }
         if (l.a == 1) {
             if (l.b > x.sure[l.from]) {
