@@ -124,6 +124,8 @@ final class Model {
     List<int[]> reads = new ArrayList<>();
     /** One more with each append, of any keeper in any term: what came behind a read has a greater one. */
     int moment;
+    /** The greatest entry that was done with any keeper so far, though it may have fallen since. */
+    int doneEver;
 
     Model(boolean[] voters) {
         for (boolean voter : voters) {
@@ -141,6 +143,7 @@ final class Model {
         c.post = post.clone();
         c.reads = new ArrayList<>(reads);
         c.moment = moment;
+        c.doneEver = doneEver;
         return c;
     }
 
@@ -150,6 +153,12 @@ final class Model {
             n += k.voter ? 1 : 0;
         }
         return n;
+    }
+
+    void remember() {
+        for (Keeper k : keepers) {
+            doneEver = Math.max(doneEver, k.done);
+        }
     }
 
     boolean most(int n) {
@@ -316,7 +325,7 @@ final class Model {
         if (x == null || cell < 0 || cell > 7 || x.termAt(x.done) != x.term || reads.size() == 40) {
             return NONE;
         }
-        reads.add(new int[] {k, cell, x.term, moment});
+        reads.add(new int[] {k, cell, x.term, moment, x.round, doneEver});
         return reads.size() - 1;
     }
 

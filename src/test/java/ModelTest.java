@@ -11,7 +11,7 @@ public final class ModelTest {
     private Counted x;
     private Model m;
     private final Model[] boxes = new Model[3];
-    private int[] seen = new int[16];
+    private int[] seen = new int[10];
 
     private ModelTest(int run, Check check) {
         this.run = run;
@@ -21,7 +21,7 @@ public final class ModelTest {
 
     public static void main(String[] args) {
         Check check = new Check("ModelTest");
-        int[] seen = new int[16];
+        int[] seen = new int[10];
         for (int run = 0; run < RUNS; run++) {
             ModelTest test = new ModelTest(run, check);
             test.go();
@@ -29,9 +29,9 @@ public final class ModelTest {
                 seen[i] += test.seen[i];
             }
         }
-        System.out.println("ModelTest: letters of each kind, good reads, done entries, foldings taken, noes: "
-                + Arrays.toString(seen));
-        for (int i = 0; i < 9; i++) {
+        System.out.println("ModelTest: letters of each kind, good reads, done entries, foldings taken, noes, reads that"
+                + " only late answers speak for: " + Arrays.toString(seen));
+        for (int i = 0; i < seen.length; i++) {
             check.due("runs that reach case " + i + " are too few", seen[i] > 100, true);
         }
         check.finish();
@@ -42,7 +42,9 @@ public final class ModelTest {
     }
 
     private void go() {
-        int n = 1 + random.nextInt(7);
+        // Few voters, of which the one that leads falls often: its rounds are answered in later terms, too.
+        boolean restless = run % 4 == 0;
+        int n = restless ? 2 + random.nextInt(3) : 1 + random.nextInt(7);
         boolean[] voters = new boolean[n];
         StringBuilder text = new StringBuilder();
         for (int i = 0; i < n; i++) {
@@ -56,9 +58,12 @@ public final class ModelTest {
         while (x.left() > 0) {
             if (random.nextInt(10) < looks) {
                 look();
+            } else if (restless && random.nextInt(3) == 0) {
+                restlessStep();
             } else {
                 step(temper);
             }
+            m.remember();
         }
     }
 
@@ -126,11 +131,72 @@ public final class ModelTest {
         } else if (dice < 98) {
             imageOrBack();
         } else {
-            int read = random.nextInt(42) - 1;
-            int good = m.good(read);
-            seen[5] += good == Model.GAP ? 0 : 1;
-            due("good", x.good(read), good);
+            good(random.nextInt(42) - 1);
         }
+    }
+
+    private void restlessStep() {
+        int dice = random.nextInt(20);
+        if (dice < 2) {
+            leadAnew(leader());
+        } else if (dice < 8) {
+            int k = leader();
+            int to = keeper();
+            due("append", x.append(k, to), m.append(k, to));
+        } else if (dice < 11) {
+            int k = leader();
+            int cell = random.nextInt(8);
+            due("read", x.read(k, cell), m.read(k, cell));
+        } else {
+            // The latest reads are those that may be good.
+            good(m.reads.size() - 1 - random.nextInt(3));
+        }
+    }
+
+    /** One that leads falls, rises, asks and is voted for at once, while its older letters are under way. */
+    private void leadAnew(int k) {
+        if (m.leader(k) == null || x.left() < 30) {
+            return;
+        }
+        check.due("run " + run + ": fall", x.fall(k), m.fall(k));
+        check.due("run " + run + ": rise", x.rise(k), m.rise(k));
+        due("ask", x.ask(k), m.ask(k));
+        for (int kind = 0; kind < 2; kind++) {
+            for (int slot = 0; slot < 40 && x.left() > 0; slot++) {
+                if (m.full(slot) && m.post[slot].kind == kind && m.post[slot].term == m.at(k).term) {
+                    due("deliver", x.deliver(slot), m.deliver(slot));
+                }
+            }
+        }
+    }
+
+    private void good(int read) {
+        int good = m.good(read);
+        seen[5] += good == Model.GAP ? 0 : 1;
+        seen[9] += good == Model.GAP && goodByNumbers(read) ? 1 : 0;
+        due("good", x.good(read), good);
+        if (good != Model.GAP) {
+            int[] r = m.reads.get(read);
+            boolean knows = x.left() == 0 || x.keeper(r[0], 5) >= r[5];
+            check.due("run " + run + ": a good read knows all that was done ahead of it", knows, true);
+        }
+    }
+
+    /** Whether rounds that were answered speak for a read by their numbers, whatever their terms are. */
+    private boolean goodByNumbers(int read) {
+        if (read < 0 || read >= m.reads.size()) {
+            return false;
+        }
+        int[] r = m.reads.get(read);
+        Model.Keeper it = m.leader(r[0]);
+        if (it == null || it.term != r[2]) {
+            return false;
+        }
+        int heard = 0;
+        for (int i = 0; i < m.keepers.size(); i++) {
+            heard += m.at(i).voter && (i == r[0] || it.answered[i] > r[4]) ? 1 : 0;
+        }
+        return m.most(heard);
     }
 
     private boolean noLeader() {
